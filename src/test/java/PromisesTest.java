@@ -29,6 +29,7 @@ public final class PromisesTest {
         goodFor();
         evenness();
         digest();
+        digestOfError();
         CHECKS.end("PromisesTest");
     }
 
@@ -327,11 +328,11 @@ public final class PromisesTest {
         same("11 cleared", b.clearBuffer(), 0);
         same("11 shots with", b.speed(3, 8), 1);
         same("11 undoable", b.count(4), 1);
-        type(b, "w0:7;w1:99;c0;2*9;5*2;c1;0;w0:8");
+        type(b, "w0:7;w1:97;c0;2*9;5*2;c1;0;w0:8");
         same("11 shots", b.play(), 12);
         same("11 undoable as one", b.count(4), 2);
         same("11 spring", b.curtain(0, 0), 8);
-        same("11 spring", b.curtain(1, 0), 99);
+        same("11 spring", b.curtain(1, 0), 97);
         same("11 since cleaned", b.curtain(0, 1), 12);
         same("11 since cleaned", b.curtain(1, 1), 1);
         same("11 shots with", b.speed(2, 8), 9);
@@ -417,6 +418,9 @@ public final class PromisesTest {
         b.drag(1, 23, 23, 6);
         same("13 slowest", b.curtain(1, 3), 23);
         same("13 the second one by itself", b.curtain(1, 2), 24 * 31 + 21);
+        b.drag(1, 0, 0, 8);
+        same("13 slowest", b.curtain(1, 3), 0);
+        same("13 ticks", b.curtain(1, 2), 24 * 31 + 29);
         long before = b.digest();
         b.curtain(0, 0);
         same("13 changes nothing", b.digest(), before);
@@ -567,6 +571,10 @@ public final class PromisesTest {
         same("16 light as it was made", b.count(1), 480);
         b.undo();
         same("16 saved", b.count(4), 4);
+        for (int k = 0; k < 4; k++) {
+            b.undo();
+        }
+        same("16 greatest spread undone", b.count(3), 0);
         CHECKS.illegal("16 what", b, () -> b.count(5));
         for (int beyond : BEYOND) {
             CHECKS.illegal("16 what", b, () -> b.count(beyond));
@@ -716,6 +724,8 @@ public final class PromisesTest {
         b.correct(0, -50);
         b.drag(1, 12, 12, 0);
         CHECKS.same("22 all dark", b.evenness(0), 1.0);
+        b.correct(0, -19);
+        CHECKS.same("22 least light", b.evenness(0), 0.0);
         CHECKS.outside("22 speed", b, () -> b.evenness(6));
         for (int beyond : BEYOND) {
             CHECKS.outside("22 speed", b, () -> b.evenness(beyond));
@@ -732,9 +742,68 @@ public final class PromisesTest {
         same("23 no buffer", b.digest(), empty);
         b.digest();
         same("23 changes nothing", b.digest(), empty);
-        // What this hash does not tell by hand is told by the model in ModelTest.
+        b.set(0, 3);
+        b.shoot(2, 39);
+        b.clean(1);
+        b.wind(1, 44);
+        b.drag(0, 0, 0, 9);
+        b.drag(1, 7, 12, 4);
+        b.correct(3, -21);
+        same("23 of the other answers", b.digest(), digestOf(b));
+        b.correct(2, -47);
+        b.drag(0, 5, 23, 45);
+        same("23 of a dark column", b.digest(), digestOf(b));
+        CHECKS.same("23 of a dark column", b.evenness(2), 0.0);
+        b.undo();
+        empty = b.digest();
         b.wind(0, 51);
         b.undo();
         same("23 undone", b.digest(), empty);
+    }
+
+    /** The error that goodFor is asked for in a digest is 60: one of just that is good, one of 61 is not. */
+    private static void digestOfError() {
+        for (int drag = 10; drag <= 11; drag++) {
+            ShutterBench b = new ShutterBench();
+            b.correct(3, 50);
+            b.drag(1, 0, 0, drag);
+            same("23 greatest error", b.speed(3, 5), 50 + drag);
+            same("23 of goodFor", b.digest(), digestOf(b));
+        }
+    }
+
+    /** The digest by the other calls of a bench with an empty buffer. */
+    private static long digestOf(ShutterBench b) {
+        long hash = 3191;
+        for (int what = 0; what <= 4; what++) {
+            hash = 31 * hash + b.count(what);
+        }
+        for (int s = 0; s <= 3; s++) {
+            hash = 31 * hash + b.setting(s);
+        }
+        for (int c = 0; c <= 1; c++) {
+            for (int what = 0; what <= 3; what++) {
+                hash = 31 * hash + b.curtain(c, what);
+            }
+            for (int k = 0; k <= 23; k++) {
+                hash = 31 * hash + b.column(0, k, 4 + c);
+            }
+        }
+        for (int v = 0; v <= 5; v++) {
+            for (int what = 0; what <= 8; what++) {
+                hash = 31 * hash + b.speed(v, what);
+            }
+        }
+        for (int what = 0; what <= 11; what++) {
+            hash = 31 * hash + b.column(2, what < 4 ? 0 : what < 8 ? 11 : 23, what % 4);
+        }
+        hash = 31 * hash + b.bestCorrection(1);
+        hash = 31 * hash + b.bestSpring(1, 2);
+        for (int what = 0; what <= 2; what++) {
+            hash = 31 * hash + b.ifShot(0, 9, what);
+        }
+        hash = 31 * hash + b.goodFor(3, 60);
+        hash = 31 * hash + Double.doubleToLongBits(b.evenness(2));
+        return 31 * hash;
     }
 }
