@@ -274,11 +274,11 @@ public final class ShutterBench {
         needSpeed(speed);
         probe.become(now);
         int best = -MOST_CORRECTION;
-        int least = Integer.MAX_VALUE;
+        int least = NONE;
         for (int correction = -MOST_CORRECTION; correction <= MOST_CORRECTION; correction++) {
             put(probe.corrections, speed, correction);
             exposure.expose(probe, speed);
-            if (exposure.allErrors < least) {
+            if (least == NONE || exposure.allErrors < least) {
                 least = exposure.allErrors;
                 best = correction;
             }
@@ -291,11 +291,11 @@ public final class ShutterBench {
         needSpeed(speed);
         probe.become(now);
         int best = 1;
-        int least = Integer.MAX_VALUE;
+        int least = NONE;
         for (int spring = 1; spring <= MOST_SPRING; spring++) {
             put(probe.springs, curtain, spring);
             exposure.expose(probe, speed);
-            if (exposure.spread() < least) {
+            if (least == NONE || exposure.spread() < least) {
                 least = exposure.spread();
                 best = spring;
             }
