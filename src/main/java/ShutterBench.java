@@ -408,8 +408,8 @@ public final class ShutterBench {
     }
 
     /**
-     * The bits of a share of 0.0 to 1.0, as Double.doubleToLongBits gives them: LANGUAGE.md leaves
-     * that function out. Each step is exact, so that no bit is lost.
+     * The bits of a share of 0.0 to 1.0 as a double, worked out here because LANGUAGE.md leaves the
+     * library's function for it out. Each step is exact, so that no bit is lost.
      */
     private static long bitsOfShare(double share) {
         if (share <= 0.0) {
